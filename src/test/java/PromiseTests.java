@@ -364,8 +364,8 @@ public final class PromiseTests {
         fault("proc p0 ( a , b , c , d , e , f , g , h ) begin end begin p0 ( 1 , 2 , 3 , 4 , 5 , 6 , 7 , 8 ) end");
         fault("proc p0 ( a , b , c , d , e , f , g , h , | a ) begin end begin end");
         fault("proc p0 ( a , b , c , d , e , f , g , h ) begin end begin | p0 ( 1 , 2 , 3 , 4 , 5 , 6 , 7 , 8 , 9 ) end");
-        LittleCompiler x = Check.with("begin p0 ( )");
-        due("fault of no program", x.fault(), WRONG);
+        due("fault of no program", Check.with("begin p0 ( )").fault(), WRONG);
+        due("fault before anything else", Check.with("begin p0 ( ) end").fault(), 1);
     }
 
     private static void set() {
@@ -402,6 +402,9 @@ public final class PromiseTests {
         due("cellAfter 3", x.cellAfter(3), 23);
         due("a run changes no cell", x.cellAfter(3), 23);
         due("cellAfter 15", x.cellAfter(15), -7);
+        Check.put(x, Check.tokens("begin put m [ 0 ] * 10 + m [ 16 ] end"));
+        x.cell(0, 4);
+        due("cell 0", x.output(0), 44);
         Check.put(x, Check.tokens("begin end"));
         for (int i = 0; i < 16; i++) {
             due("cell each", x.cell(i, 100 - i), 0);
@@ -742,6 +745,8 @@ public final class PromiseTests {
         value("0 & 1 + 5", 5);
         value("2 or 3 + 4", 5);
         value("2 + 3 or 4", 1);
+        value("5 + ( 0 & 1 )", 5);
+        value("5 + ( 1 or 0 )", 6);
         value("- 1 or 0", 1);
         value("0 - 0 or 0", 0);
     }
@@ -789,6 +794,15 @@ public final class PromiseTests {
         due("arguments in order", x.output(0), 5);
         x = Check.with("proc p0 ( ) begin end begin a := 5 ; a := p0 ( ) end");
         due("no return gives 0", x.global(0), 0);
+        x = Check.with("proc p0 ( ) begin end begin put 10 + p0 ( ) end");
+        due("no return adds 0", x.output(0), 10);
+        x = Check.with("proc p0 ( ) begin return 7 end proc p1 ( ) begin p0 ( ) ; return 2 end begin put 10 + p1 ( ) end");
+        due("a call as a statement leaves nothing", x.output(0), 12);
+        x = Check.with("proc p0 ( a ) begin if a > 1 then a := a + p0 ( a - 1 ) end ; return a end begin put p0 ( 20 ) end");
+        due("back from the deepest", x.output(0), 210);
+        x = Check.with("proc p0 ( ) begin if a > 0 then a := a - 1 ; return " + Check.repeated("1 + (", 28) + "p0 ( ) "
+            + Check.repeated(")", 28) + "end end begin a := 19 ; put p0 ( ) end");
+        due("many operands wait in each call", x.output(0), 19 * 28);
         x = Check.with("proc p0 ( ) begin while 1 do if 1 then return 4 end end end begin put p0 ( ) end");
         due("return out of loops", x.output(0), 4);
         x = Check.with("proc p0 ( a , b , c , d , e , f , g , h ) begin return a + b * 2 - h end"
@@ -841,6 +855,21 @@ public final class PromiseTests {
         due("refused token", x.token(999), BAD_ARG);
         due("still", x.output(0), 7);
         due("plain now", x.plainSize(), 6);
+        Check.put(x, Check.tokens("begin put ( a ) end"));
+        due("plain of brackets", x.plainSize(), 4);
+        Check.put(x, Check.tokens("begin put m [ a ] end"));
+        due("plain without brackets", x.plainSize(), 7);
+        Check.put(x, Check.tokens("begin while ( ( ("));
+        due("plain of an open text", x.plainSize(), WRONG);
+        Check.put(x, Check.tokens("begin if 1 then put ( 2 ) end end"));
+        due("plain after an open text", x.plainSize(), 8);
+        due("run after an open text", x.output(0), 2);
+        for (int time = 0; time < 100; time++) {
+            x.token(121);
+            due("spoilt", x.outs(), WRONG);
+            x.untoken();
+            due("mended", x.outs(), 1);
+        }
         x.clear();
         due("after clear", x.run(), WRONG);
         due("globals wait", x.global(0), 0);
