@@ -683,7 +683,7 @@ public final class LittleCompiler {
         void collect(int[] whole, int length) {
             size = 0;
             for (int at = 0; at < length && at < whole.length && at < LONGEST; at++) {
-                boolean spare = leftOut[at] || whole[at] == Token.SEMICOLON && endsNoStatement(whole, length, at);
+                boolean spare = leftOut[at] || whole[at] == Token.SEMICOLON && isBesideEmptyStatement(whole, length, at);
                 if (!spare && size < text.length) {
                     text[size] = whole[at];
                     size++;
@@ -692,7 +692,7 @@ public final class LittleCompiler {
         }
 
         /** Between two statements that are not empty the last of the semicolons stays. */
-        private boolean endsNoStatement(int[] whole, int length, int at) {
+        private boolean isBesideEmptyStatement(int[] whole, int length, int at) {
             boolean emptyBefore = size > 0 && size <= text.length && Token.opensStatements(text[size - 1]);
             int behind = at >= 0 && at < length - 1 && at < whole.length - 1 ? whole[at + 1] : Token.END;
             return emptyBefore || behind == Token.SEMICOLON || Token.endsStatements(behind);
