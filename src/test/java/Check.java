@@ -18,6 +18,7 @@ final class Check {
     }
 
     private final String name;
+    private String sentence = "";
     private int wrong;
     private int asked;
 
@@ -25,11 +26,16 @@ final class Check {
         this.name = name;
     }
 
+    /** The sentence of the document that the next answers are about. */
+    void about(String words) {
+        sentence = "[" + words + "] ";
+    }
+
     void due(String call, int got, int want) {
         asked++;
         if (got != want) {
             wrong++;
-            System.out.println(name + ": " + call + " answered " + got + ", due is " + want);
+            System.out.println(name + ": " + sentence + call + " answered " + got + ", due is " + want);
         }
     }
 
@@ -84,8 +90,32 @@ final class Check {
 
     static void put(LittleCompiler compiler, int[] tokens) {
         compiler.clear();
+        fits(tokens);
         for (int token : tokens) {
             compiler.token(token);
+        }
+    }
+
+    /** A test's own text that is too long would be cut off without a word. */
+    private static void fits(int[] tokens) {
+        if (tokens.length > 150) {
+            throw new IllegalArgumentException(tokens.length + " tokens: " + words(tokens));
+        }
+    }
+
+    /** Takes few calls: an object is used for at most 512. */
+    static LittleCompiler written(int[] tokens) {
+        LittleCompiler compiler = new LittleCompiler();
+        append(compiler, tokens);
+        return compiler;
+    }
+
+    static void append(LittleCompiler compiler, int[] tokens) {
+        fits(tokens);
+        for (int i = 0; i < tokens.length; i += 4) {
+            int[] group = {-1, -1, -1, -1};
+            System.arraycopy(tokens, i, group, 0, Math.min(4, tokens.length - i));
+            compiler.four(group[0], group[1], group[2], group[3]);
         }
     }
 
