@@ -22,6 +22,7 @@ public final class BoundaryRunTests {
         cellNumbers();
         divisorZero();
         partsThatAreNotWorkedOut();
+        orderOfWork();
         callsUnderWay();
         callsUnderWayInOtherForms();
         procsInEachOrder();
@@ -198,6 +199,39 @@ public final class BoundaryRunTests {
         ends("none", program("begin if 0 then put 1 elsif 0 then put 2 end ; put 3 end"), found(HALTED, 0, 0), 3);
         ends("else", program("begin if 0 then put 1 elsif 0 then put 2 else put 4 end ; put 3 end"),
             found(HALTED, 0, 0), 4, 3);
+    }
+
+    private static void orderOfWork() {
+        String head = "proc p0 ( a ) begin put a ; b := a ; m [ 2 ] := a ; return a end begin ";
+        CHECK.about("Terms: expressions are worked out from left to right");
+        for (String operator : new String[] {"+", "-", "*", "/", "%", "=", "#", "<", "<=", ">", ">=", "&"}) {
+            ends("operands of " + operator, program(head + "c := p0 ( 1 ) " + operator + " p0 ( 2 ) end"),
+                found(HALTED, 2, 1), 1, 2);
+        }
+        ends("a name in its turn", program(head + "b := 5 ; put b - p0 ( 3 ) - b end"), found(HALTED, 1, 1), 3, -1);
+        ends("a cell in its turn", program(head + "put m [ 2 ] - p0 ( 3 ) - m [ 2 ] end"), found(HALTED, 1, 1), 3, -6);
+        CHECK.about("Terms: name := E: E is worked out, then the name gets the value");
+        LittleCompiler name = program(head + "b := p0 ( 6 ) + 1 end");
+        ends("a name that E sets", name, found(HALTED, 1, 1), 6);
+        due("the name's value", name.global(1), 7);
+        CHECK.about("Terms: m [ I ] := E: I, then E is worked out, then the cell I & 15 gets the value");
+        LittleCompiler cell = program(head + "m [ p0 ( 2 ) ] := p0 ( 8 ) + 1 end");
+        ends("a cell that E sets", cell, found(HALTED, 2, 1), 2, 8);
+        due("the cell's value", cell.cellAfter(2), 9);
+        due("no other cell", cell.cellAfter(8), 0);
+        LittleCompiler index = program(head + "b := 4 ; m [ b ] := p0 ( 8 ) end");
+        due("the index before E", index.cellAfter(4), 8);
+        due("not the index behind E", index.cellAfter(8), 0);
+        ends("the index divides first", program(head + "m [ 1 / 0 ] := p0 ( 1 ) end"), found(DIVIDED, 0, 0));
+        CHECK.about("Terms: a call: its expressions are worked out in order");
+        ends("expressions of a call", program("proc p1 ( a , b , c ) begin put a * 2 + b + c end " + head
+            + "p1 ( p0 ( 1 ) , p0 ( 2 ) , p0 ( 3 ) ) end"), found(HALTED, 4, 1), 1, 2, 3, 7);
+        CHECK.about("Terms: ~ F and a sign in front of a term");
+        due("- a * b", valueOf("- a * b", LEAST, 3), LEAST);
+        due("- a + b", valueOf("- a + b", 5, 3), -2);
+        due("- a % b", valueOf("- a % b", 7, 4), -3);
+        due("~ a + b", valueOf("~ a + b", 0, 3), 4);
+        due("~ a * b", valueOf("~ a * b", 0, 3), 3);
     }
 
     private static LittleCompiler nest(int calls) {
