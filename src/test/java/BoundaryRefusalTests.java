@@ -38,10 +38,6 @@ public final class BoundaryRefusalTests {
         TEXTS.put("150 wrong tokens", "end " + Check.repeated("( a :=", 49) + "; ;");
     }
 
-    private interface Call {
-        int on(LittleCompiler x);
-    }
-
     public static void main(String[] args) {
         refusedTokens();
         refusedWhenFull();
@@ -173,7 +169,7 @@ public final class BoundaryRefusalTests {
     private static void whatOnlyAsks() {
         CHECK.about("Promises 6 to 8 and 11 to 19: what only asks changes nothing");
         for (String text : TEXTS.keySet()) {
-            for (Map.Entry<String, Call> question : questions().entrySet()) {
+            for (Map.Entry<String, Call> question : Call.questions().entrySet()) {
                 changesNothing(text, question.getKey(), question.getValue());
             }
         }
@@ -194,25 +190,6 @@ public final class BoundaryRefusalTests {
                 CHECK.holds(text + " behind " + before + ": " + difference, difference.isEmpty());
             }
         }
-    }
-
-    private static Map<String, Call> questions() {
-        Map<String, Call> all = new LinkedHashMap<>();
-        all.put("tokens", LittleCompiler::tokens);
-        all.put("wrongAt", LittleCompiler::wrongAt);
-        all.put("fault", LittleCompiler::fault);
-        all.put("run", LittleCompiler::run);
-        all.put("outs", LittleCompiler::outs);
-        all.put("turns", LittleCompiler::turns);
-        all.put("deepest", LittleCompiler::deepest);
-        all.put("plainSize", LittleCompiler::plainSize);
-        for (int k : new int[] {LEAST, -1, 0, 7, 8, 15, 16, 19, 20, 150, MOST}) {
-            all.put("output " + k, x -> x.output(k));
-            all.put("global " + k, x -> x.global(k));
-            all.put("cellAfter " + k, x -> x.cellAfter(k));
-            all.put("plain " + k, x -> x.plain(k));
-        }
-        return all;
     }
 
     private static List<Call> callsWith(int a, int b) {
@@ -239,7 +216,7 @@ public final class BoundaryRefusalTests {
                     for (Call call : callsWith(a, b)) {
                         doesNotThrow(text + " with " + a + " and " + b, x, call);
                     }
-                    for (Call call : questions().values()) {
+                    for (Call call : Call.questions().values()) {
                         doesNotThrow(text + " behind " + a + " and " + b, x, call);
                     }
                     doesNotThrow(text + " untoken", x, LittleCompiler::untoken);

@@ -2,9 +2,10 @@ import java.util.ArrayList;
 import java.util.List;
 import java.util.Random;
 
-/** Long runs of random calls: none throws, and each answers what a fresh object in the same state answers. */
+/** Runs of 512 random calls: none throws, and each answers what a fresh object in the same state answers. */
 public final class CallTests {
     private static final int CALLS = 512;
+    private static final int RUNS = 1000;
     private static final Check CHECK = new Check("CallTests");
 
     private final Random random;
@@ -12,23 +13,28 @@ public final class CallTests {
     private final List<Integer> text = new ArrayList<>();
     private final int[] globals = new int[8];
     private final int[] cells = new int[16];
+    private int calls;
 
     private CallTests(long seed) {
         random = new Random(seed);
     }
 
     public static void main(String[] args) {
-        for (int seed = 0; seed < 300; seed++) {
+        for (int seed = 0; seed < RUNS; seed++) {
             CallTests test = new CallTests(seed);
-            for (int call = 0; call < CALLS; call++) {
-                try {
-                    test.call();
-                } catch (RuntimeException | Error e) {
-                    CHECK.holds("seed " + seed + " call " + call + " threw " + e, false);
-                }
+            while (test.calls < CALLS) {
+                test.doesNotThrow(seed);
             }
         }
         CHECK.finish();
+    }
+
+    private void doesNotThrow(int seed) {
+        try {
+            call();
+        } catch (RuntimeException | Error e) {
+            CHECK.holds("seed " + seed + " call " + calls + " threw " + e, false);
+        }
     }
 
     private int anyInt() {
@@ -45,6 +51,7 @@ public final class CallTests {
     }
 
     private void call() {
+        calls++;
         int sort = random.nextInt(30);
         if (sort < 3) {
             int t = anyToken();
@@ -115,8 +122,14 @@ public final class CallTests {
     private void rewrite() {
         x.clear();
         text.clear();
-        for (int t : new Writer(random, 20 + random.nextInt(110)).program()) {
-            CHECK.due("token " + t, x.token(t), token(t));
+        List<Integer> program = new Writer(random, 20 + random.nextInt(110)).program();
+        for (int i = 0; i < program.size() && calls < CALLS; i += 4) {
+            int[] t = {-1, -1, -1, -1};
+            for (int k = 0; k < 4 && i + k < program.size(); k++) {
+                t[k] = program.get(i + k);
+            }
+            calls++;
+            CHECK.due("four", x.four(t[0], t[1], t[2], t[3]), four(t));
         }
     }
 

@@ -3,10 +3,12 @@ import java.util.List;
 
 /** All that can be seen of an object: what every call that asks answers, its tokens, and what is set. */
 final class Everything {
+    static final int MOST_CALLS = 280;
+
     private final List<String> questions = new ArrayList<>();
     private final List<Integer> answers = new ArrayList<>();
 
-    /** Takes the text off at the end, and no more than 280 calls. */
+    /** Takes the text off at the end. */
     Everything(LittleCompiler x) {
         note("tokens", x.tokens());
         note("wrongAt", x.wrongAt());

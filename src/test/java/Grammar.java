@@ -2,6 +2,7 @@ import java.util.ArrayList;
 import java.util.HashSet;
 import java.util.List;
 import java.util.Set;
+import java.util.TreeSet;
 
 /** The document's grammar as rules, and Earley's way of reading them: it shares nothing with the class's parser. */
 final class Grammar {
@@ -44,7 +45,7 @@ final class Grammar {
         nonterminals.addAll(heads);
     }
 
-    private static String sort(int token) {
+    static String sort(int token) {
         if (token < 100) {
             return "0";
         }
@@ -56,6 +57,31 @@ final class Grammar {
 
     /** The first token that no program goes on with, the length if all may stand so, -4 if it is a program. */
     int wrongAt(int[] tokens) {
+        List<List<Item>> sets = read(tokens);
+        if (sets.size() <= tokens.length) {
+            return sets.size() - 1;
+        }
+        return sets.get(tokens.length).contains(new Item(0, bodies.get(0).length, 0)) ? -4 : tokens.length;
+    }
+
+    /** The sorts of tokens that programs which begin with these tokens go on with. */
+    Set<String> mayFollow(int[] tokens) {
+        Set<String> sorts = new TreeSet<>();
+        List<List<Item>> sets = read(tokens);
+        if (sets.size() <= tokens.length) {
+            return sorts;
+        }
+        for (Item item : sets.get(tokens.length)) {
+            String[] body = bodies.get(item.rule);
+            if (item.dot < body.length && !nonterminals.contains(body[item.dot])) {
+                sorts.add(body[item.dot]);
+            }
+        }
+        return sorts;
+    }
+
+    /** The items before each token, up to the first that no program goes on with. */
+    private List<List<Item>> read(int[] tokens) {
         List<List<Item>> sets = new ArrayList<>();
         List<Item> start = new ArrayList<>();
         Set<Item> seen = new HashSet<>();
@@ -73,12 +99,12 @@ final class Grammar {
                 }
             }
             if (next.isEmpty()) {
-                return at;
+                return sets;
             }
             sets.add(next);
             complete(sets, at + 1, seen);
         }
-        return seen.contains(new Item(0, bodies.get(0).length, 0)) ? -4 : tokens.length;
+        return sets;
     }
 
     private static void add(List<Item> items, Set<Item> seen, Item item) {

@@ -13,6 +13,7 @@ public final class ReferenceTests {
     private static int programs;
     private static int runs;
     private static int plainForms;
+    private static int plainAgain;
     private static final int[] ENDINGS = new int[5];
 
     public static void main(String[] args) {
@@ -23,6 +24,7 @@ public final class ReferenceTests {
         CHECK.holds("many programs: " + programs, programs > 6000);
         CHECK.holds("many runs: " + runs, runs > 4000);
         CHECK.holds("many plain forms: " + plainForms, plainForms > 3000);
+        CHECK.holds("many plain forms of longer texts: " + plainAgain, plainAgain > 500);
         for (int how = 0; how < ENDINGS.length; how++) {
             CHECK.holds("many runs that end with " + how + ": " + ENDINGS[how], ENDINGS[how] > 30);
         }
@@ -122,12 +124,24 @@ public final class ReferenceTests {
         }
     }
 
-    /** Tries every choice of what may be left out; one form alone may be the shortest. */
+    /** Where too much may be left out to try it all, the plain form itself is to have nothing left to leave out. */
     private static void comparePlain(LittleCompiler x, int[] tokens, Tree tree, String words) {
         String got = Check.plain(x);
-        Tree gotTree = Tree.read(Check.tokens(got));
+        int[] gotTokens = Check.tokens(got);
+        Tree gotTree = Tree.read(gotTokens);
         CHECK.holds(words + " plain means the same: " + got,
             gotTree != null && gotTree.meaning().equals(tree.meaning()));
+        if (gotTree == null) {
+            return;
+        }
+        boolean tried = compareShortest(tokens, tree, got, words);
+        boolean triedAgain = compareShortest(gotTokens, gotTree, got, words + " plain again");
+        plainForms += tried ? 1 : 0;
+        plainAgain += !tried && triedAgain ? 1 : 0;
+    }
+
+    /** Tries every choice of what may be left out, if they are not too many; one form alone may be the shortest. */
+    private static boolean compareShortest(int[] tokens, Tree tree, String got, String words) {
         List<int[]> spare = new ArrayList<>();
         collectSpare(tree, spare);
         for (int at = 0; at < tokens.length; at++) {
@@ -136,10 +150,15 @@ public final class ReferenceTests {
             }
         }
         if (spare.size() > MOST_TRIED) {
-            return;
+            return false;
         }
-        plainForms++;
-        String meaning = tree.meaning();
+        TreeSet<String> shortest = shortestForms(tokens, spare, tree.meaning());
+        CHECK.holds(words + " plain is one of " + shortest + ", not " + got, shortest.contains(got));
+        CHECK.due(words + " shortest forms", shortest.size(), 1);
+        return true;
+    }
+
+    private static TreeSet<String> shortestForms(int[] tokens, List<int[]> spare, String meaning) {
         TreeSet<String> shortest = new TreeSet<>();
         int length = LONGEST + 1;
         for (int choice = 0; choice < 1 << spare.size(); choice++) {
@@ -156,9 +175,7 @@ public final class ReferenceTests {
                 shortest.add(Check.words(left));
             }
         }
-        CHECK.due(words + " plainSize", x.plainSize(), length);
-        CHECK.holds(words + " plain is one of " + shortest + ", not " + got, shortest.contains(got));
-        CHECK.due(words + " shortest forms", shortest.size(), 1);
+        return shortest;
     }
 
     private static void collectSpare(Tree tree, List<int[]> spare) {
