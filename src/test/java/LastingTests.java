@@ -159,7 +159,7 @@ public final class LastingTests {
 
     /** The text is read again and again without ever being ended, before another one takes its place. */
     private static void nothingPilesUpFromBrokenOffTexts() {
-        String[] programs = {PROGRAMS[0], PROGRAMS[1], PROGRAMS[6],
+        String[] programs = {PROGRAMS[0], PROGRAMS[1], PROGRAMS[6], "begin put ( - a ) + ( b ) * ( c + 1 ) end",
             "begin put " + Check.repeated("( 1 -", 36) + "1 " + Check.repeated(")", 36) + "end"};
         for (String before : brokenOff()) {
             for (String program : programs) {
