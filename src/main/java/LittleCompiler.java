@@ -618,15 +618,14 @@ public final class LittleCompiler {
         final int[] text = new int[LONGEST];
         int size;
         private final boolean[] leftOut = new boolean[LONGEST];
-        // The operands read so far, as a stack: the level of each, and the brackets around it that are not judged yet.
-        private final int[] levels = new int[LONGEST];
-        private final int[] opens = new int[LONGEST];
-        private final int[] closes = new int[LONGEST];
-        private int height;
+        // The operand that was read last, and the brackets around it: they are judged before another one is read.
+        private int level;
+        private int open;
+        private int close;
 
         void restart() {
             size = 0;
-            height = 0;
+            beginOperand();
             for (int at = 0; at < leftOut.length; at++) {
                 leftOut[at] = false;
             }
@@ -638,46 +637,28 @@ public final class LittleCompiler {
             }
         }
 
-        void pushFactor() {
-            if (height >= 0 && height < LONGEST) {
-                levels[height] = Level.FACTOR;
-                opens[height] = NO_BRACKETS;
-                closes[height] = NO_BRACKETS;
-                height++;
-            }
+        void beginOperand() {
+            level = Level.FACTOR;
+            open = NO_BRACKETS;
+            close = NO_BRACKETS;
         }
 
-        void popOperand() {
-            if (height > 0) {
-                height--;
-            }
+        void becomeLevel(int newLevel) {
+            level = newLevel;
         }
 
-        void becomeLevel(int level) {
-            if (height > 0 && height <= LONGEST) {
-                levels[height - 1] = level;
-            }
+        void putInBrackets(int openAt, int closeAt) {
+            open = openAt;
+            close = closeAt;
         }
 
-        void putInBrackets(int open, int close) {
-            if (height > 0 && height <= LONGEST) {
-                opens[height - 1] = open;
-                closes[height - 1] = close;
-            }
-        }
-
-        /** The top operand stands where what it is made of has to hold together at this level at least. */
+        /** The operand stands where what it is made of has to hold together at this level at least. */
         void judgeBrackets(int leastLevel) {
-            if (height <= 0 || height > LONGEST) {
-                return;
-            }
-            int open = opens[height - 1];
-            int close = closes[height - 1];
-            if (levels[height - 1] >= leastLevel && open >= 0 && open < LONGEST && close >= 0 && close < LONGEST) {
+            if (level >= leastLevel && open >= 0 && open < leftOut.length && close >= 0 && close < leftOut.length) {
                 leftOut[open] = true;
                 leftOut[close] = true;
             }
-            opens[height - 1] = NO_BRACKETS;
+            open = NO_BRACKETS;
         }
 
         void collect(int[] whole, int length) {
@@ -776,11 +757,9 @@ public final class LittleCompiler {
         int end() {
             endOperators(Level.EXPRESSION);
             plainForm.judgeBrackets(Level.EXPRESSION);
-            if (pending.kind() == Pending.BRACKET) {
-                return Next.BRACKET_CLOSE;
-            }
-            plainForm.popOperand();
             switch (pending.kind()) {
+                case Pending.BRACKET:
+                    return Next.BRACKET_CLOSE;
                 case Pending.INDEX:
                     return Next.INDEX_CLOSE;
                 case Pending.CALL:
@@ -832,7 +811,7 @@ public final class LittleCompiler {
 
         private int simpleFactor(int operation, int operand) {
             code.emit(operation, operand);
-            plainForm.pushFactor();
+            plainForm.beginOperand();
             return Next.FACTOR_END;
         }
 
@@ -857,14 +836,7 @@ public final class LittleCompiler {
         }
 
         private void endOperator(int operation, int level, int skip) {
-            if (operation == Code.NOT) {
-                plainForm.judgeBrackets(Level.FACTOR);
-            } else {
-                plainForm.judgeBrackets(level + 1);
-                if (operation != Code.NEGATE) {
-                    plainForm.popOperand();
-                }
-            }
+            plainForm.judgeBrackets(operation == Code.NOT ? Level.FACTOR : level + 1);
             plainForm.becomeLevel(level);
             if (skip == Code.NO_ADDRESS) {
                 code.emit(operation, 0);

@@ -370,6 +370,14 @@ public final class BoundaryProgramTests {
         fault("proc p0 ( a ) begin end proc | p0 ( ) begin end begin p0 ( 1 ) end");
         fault("proc p1 ( ) begin | p0 ( ) end proc p0 ( a ) begin end proc p0 ( ) begin end begin end");
         fault("proc p1 ( ) begin p0 ( 1 ) end proc p0 ( a ) begin end proc | p0 ( ) begin end begin end");
+        fault("proc p1 ( ) begin p0 ( 1 ) end proc p0 ( a ) begin end proc | p0 ( b , c ) begin end begin end");
+        fault("proc p1 ( ) begin p0 ( 1 ) end proc p0 ( a ) var b begin end proc | p0 ( c ) var d begin end begin end");
+        fault("proc p1 ( ) begin | p0 ( 1 , 2 ) end proc p0 ( a ) begin end proc p0 ( b , c ) begin end begin end");
+        fault("proc p1 ( ) begin | p0 ( 1 , 2 ) end proc p0 ( a ) begin end proc p0 ( b ) begin end begin end");
+        fault("proc p1 ( ) begin p0 ( ) end proc p0 ( ) begin end proc p2 ( ) begin end proc | p0 ( a ) begin end begin"
+            + " p2 ( 1 ) end");
+        fault("proc p1 ( ) begin p2 ( ) end proc p0 ( ) begin end proc p2 ( ) begin end proc | p0 ( a ) begin end begin"
+            + " p0 ( ) end");
     }
 
     private static void firstFault() {

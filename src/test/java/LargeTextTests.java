@@ -194,13 +194,19 @@ public final class LargeTextTests {
                 }
             }
         }
-        for (int names = 2; names <= 33; names++) {
-            for (int given = names - 1; given <= names + 1 && given <= 33; given++) {
-                String call = "proc p1 ( ) begin p0 ( " + list("1", given) + ") end ";
-                LittleCompiler x = text(call + "proc p0 ( " + list("a", names) + ") begin end begin end");
-                int twice = count(call) + 5;
-                CHECK.due(given + " expressions for " + names + " names told twice", x.fault(), given == names ? twice : 5);
+        for (int p = 0; p <= 3; p++) {
+            for (int names = 2; names <= 33; names++) {
+                namesToldTwice("p" + p, "p" + (p + 1) % 4, names);
             }
+        }
+    }
+
+    private static void namesToldTwice(String called, String caller, int names) {
+        for (int given = names - 1; given <= names + 1 && given <= 33; given++) {
+            String call = "proc " + caller + " ( ) begin " + called + " ( " + list("1", given) + ") end ";
+            LittleCompiler x = text(call + "proc " + called + " ( " + list("a", names) + ") begin end begin end");
+            int twice = count(call) + 5;
+            CHECK.due(given + " expressions for " + names + " names of " + called, x.fault(), given == names ? twice : 5);
         }
     }
 
